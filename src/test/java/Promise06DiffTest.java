@@ -48,8 +48,10 @@ public final class Promise06DiffTest {
         pairs("twice in B is no anchor",
             Check.lines(2, 2, 2, 9, 5), Check.lines(9, 4, 9, 2, 2, 2, 6), 3, 4, 5, -1, -1);
         // The trimmed 5 does not count, so the other 5 is unique in the gap.
-        pairs("counted after the trim",
+        pairs("counted after the prefix",
             Check.lines(5, 5, 2, 2, 2, 1), Check.lines(5, 2, 2, 2, 5, 3), 0, 4, -1, -1, -1, -1);
+        pairs("counted after the suffix",
+            Check.lines(9, 2, 2, 1, 9), Check.lines(2, 2, 9, 3, 9), 2, -1, -1, -1, 4);
     }
 
     private static void chainTakesTheGreatestIndex() {
