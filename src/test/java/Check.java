@@ -34,9 +34,25 @@ final class Check {
         return hashes;
     }
 
+    // `count` lines, each one more than the line before.
+    static int[] run(int count, int first) {
+        int[] lines = new int[count];
+        for (int t = 0; t < count; t++) {
+            lines[t] = first + t;
+        }
+        return lines;
+    }
+
+    // The sequence must be empty; for one that is not there is feedMore.
     static void feed(PatienceDiff x, int seq, int... hashes) {
+        due("length(" + seq + ") before the first line", x.length(seq), 0);
+        feedMore(x, seq, hashes);
+    }
+
+    static void feedMore(PatienceDiff x, int seq, int... hashes) {
+        int length = x.length(seq);
         for (int t = 0; t < hashes.length; t++) {
-            due("addLine(" + seq + ", " + hashes[t] + ")", x.addLine(seq, hashes[t]), t + 1);
+            due("addLine(" + seq + ", " + hashes[t] + ")", x.addLine(seq, hashes[t]), length + t + 1);
         }
     }
 
