@@ -7,7 +7,9 @@ import java.nio.file.Files;
 import java.nio.file.Path;
 import java.util.Arrays;
 import java.util.HashSet;
+import java.util.Map;
 import java.util.Set;
+import java.util.TreeMap;
 import java.util.TreeSet;
 import java.util.regex.Matcher;
 import java.util.regex.Pattern;
@@ -36,7 +38,9 @@ public final class LanguageTest {
         faceIsTheDocuments();
         fieldsKeepToTheTypes();
         methodsKeepToTheTypes();
-        sourceKeepsToTheWords();
+        String code = code();
+        sourceKeepsToTheWords(code);
+        methodsKeepToTheRules(bodies(code));
         Check.end();
     }
 
@@ -99,36 +103,102 @@ public final class LanguageTest {
         }
     }
 
-    private static void sourceKeepsToTheWords() throws IOException {
+    // Comments go, but their line ends stay, for the methods' lines are counted.
+    private static String code() throws IOException {
         String source = Files.readString(Path.of("src/main/java/PatienceDiff.java"));
-        String code = source.replaceAll("//[^\n]*", "").replaceAll("(?s)/\\*.*?\\*/", "");
+        Matcher comment = Pattern.compile("//[^\n]*|(?s:/\\*.*?\\*/)").matcher(source);
+        return comment.replaceAll(found -> found.group().replaceAll("[^\n]", ""));
+    }
+
+    private static void sourceKeepsToTheWords(String code) {
         String[] words = {
             "package", "import", "interface", "enum", "record", "float", "double", "String", "Object", "Math",
             "Integer", "Long", "System", "Arrays", "null", "throw", "throws", "try", "catch", "finally",
             "synchronized", "assert", "instanceof", "protected", "var", "getClass", "hashCode", "equals", "toString"
         };
         for (String word : words) {
-            Check.holds("rules 1 to 6: the word " + word, !Pattern.compile("\\b" + word + "\\b").matcher(code).find());
+            Check.due("rules 1 to 6: the word " + word, count("\\b" + word + "\\b", code), 0);
         }
-        for (String sign : new String[] {"->", "::", "\"", "@", "static {"}) {
+        for (String sign : new String[] {"->", "::", "\"", "@"}) {
             Check.holds("rules 2 to 6: the sign " + sign, !code.contains(sign));
         }
-        Pattern made = Pattern.compile("    private final (\\w+)\\[\\] \\w+ = new \\1\\[[A-Z_0-9]+\\];");
-        for (String line : code.split("\n")) {
-            boolean makes = Pattern.compile("\\bnew\\b").matcher(line).find();
-            Check.holds("rule 4: " + line, !makes || made.matcher(line).matches());
-        }
-        methodsStayShort(source);
+        Check.due("rule 5: static initialisers", count("\\bstatic\\s*\\{", code), 0);
+        Check.due("rule 4: arrays with a fixed length", count("\\bnew\\s+[a-z]+\\s*\\[\\s*\\w+\\s*\\]", code),
+            count("\\bnew\\b", code));
     }
 
-    private static void methodsStayShort(String source) {
-        Matcher method = Pattern.compile("(?ms)^    (public|private)[^;=\n]*\\{\n.*?^    \\}\n").matcher(source);
-        int methods = 0;
-        while (method.find()) {
-            methods++;
-            long lines = method.group().lines().count();
-            Check.holds("rule 10: " + lines + " lines in " + method.group().lines().findFirst().get(), lines <= 60);
+    private static int count(String pattern, String text) {
+        return (int) Pattern.compile(pattern).matcher(text).results().count();
+    }
+
+    // The text of each method and of the constructor, by name.
+    private static Map<String, String> bodies(String code) {
+        Map<String, String> bodies = new TreeMap<>();
+        int depth = 0;
+        int headFrom = 0;
+        int bodyFrom = 0;
+        for (int at = 0; at < code.length(); at++) {
+            char sign = code.charAt(at);
+            depth += sign == '{' ? 1 : 0;
+            if (sign == '{' && depth == 2) {
+                bodyFrom = at;
+            } else if (sign == '}' && depth == 2) {
+                addBody(bodies, code.substring(headFrom, bodyFrom), code.substring(bodyFrom, at + 1));
+            }
+            depth -= sign == '}' ? 1 : 0;
+            if (depth == 1 && (sign == '{' || sign == '}' || sign == ';')) {
+                headFrom = at + 1;
+            }
         }
-        Check.due("methods found in the source", methods, FACE.getDeclaredMethods().length + 1);
+        Check.due("methods found in the source", bodies.size(), FACE.getDeclaredMethods().length + 1);
+        return bodies;
+    }
+
+    private static void addBody(Map<String, String> bodies, String head, String body) {
+        Matcher name = Pattern.compile("(\\w+)\\s*\\(").matcher(head);
+        if (name.find() && !head.contains("=")) {
+            bodies.put(name.group(1), body);
+        }
+    }
+
+    private static void methodsKeepToTheRules(Map<String, String> bodies) {
+        Pattern call = Pattern.compile("\\b(" + String.join("|", bodies.keySet()) + ")\\s*\\(");
+        for (Map.Entry<String, String> method : bodies.entrySet()) {
+            String name = method.getKey();
+            String body = method.getValue();
+            Check.holds("rule 10: " + name + " is short", body.lines().count() <= 60);
+            Check.holds("rule 4: " + name + " makes nothing",
+                name.equals("PatienceDiff") || count("\\bnew\\b", body) == 0);
+            Matcher found = call.matcher(body);
+            while (found.find()) {
+                String arguments = arguments(body, found.end());
+                Check.holds("rule 10: no call within " + found.group() + arguments + " in " + name,
+                    !call.matcher(arguments).find());
+            }
+            callsEnd(name, call, bodies);
+        }
+    }
+
+    private static String arguments(String body, int from) {
+        int open = 1;
+        int at = from;
+        while (open > 0) {
+            open += body.charAt(at) == '(' ? 1 : body.charAt(at) == ')' ? -1 : 0;
+            at++;
+        }
+        return body.substring(from, at);
+    }
+
+    // A recursion would show as calls that are still going on after six steps.
+    private static void callsEnd(String name, Pattern call, Map<String, String> bodies) {
+        Set<String> running = Set.of(name);
+        for (int depth = 1; depth <= 6; depth++) {
+            Set<String> called = new TreeSet<>();
+            for (String caller : running) {
+                call.matcher(bodies.get(caller)).results().forEach(found -> called.add(found.group(1)));
+            }
+            running = called;
+        }
+        Check.holds("rules 8, 10: six deep from " + name + " runs " + running, running.isEmpty());
     }
 }

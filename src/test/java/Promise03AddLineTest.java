@@ -77,7 +77,7 @@ public final class Promise03AddLineTest {
                 }
             }
         }
-        PatienceDiff x = fullAndApplied(2);
+        PatienceDiff x = applied(2);
         for (int seq = PatienceDiff.SEQ_OLD; seq <= PatienceDiff.SEQ_BASE; seq++) {
             refuses(new State("full and applied", 2, 0, x), seq);
         }
@@ -91,7 +91,7 @@ public final class Promise03AddLineTest {
             () -> Check.due(call, state.object().addLine(seq, 8), PatienceDiff.REFUSED));
     }
 
-    private static PatienceDiff fullAndApplied(int capacity) {
+    private static PatienceDiff applied(int capacity) {
         PatienceDiff x = new PatienceDiff(capacity, 0);
         Check.feed(x, PatienceDiff.SEQ_OLD, 1, 2);
         Check.feed(x, PatienceDiff.SEQ_NEW, 1, 3);
@@ -118,7 +118,7 @@ public final class Promise03AddLineTest {
     // "After a successful call the result becomes absent"
     private static void resultBecomesAbsent() {
         for (int seq = PatienceDiff.SEQ_OLD; seq <= PatienceDiff.SEQ_BASE; seq++) {
-            PatienceDiff x = fullAndApplied(3);
+            PatienceDiff x = applied(3);
             Check.due("addLine(" + seq + ", 8)", x.addLine(seq, 8), 3);
             Check.noResult("a line more in " + seq, x);
             PatienceDiff y = new PatienceDiff(1, 0);
@@ -132,7 +132,7 @@ public final class Promise03AddLineTest {
     // "if seq is SEQ_OLD or SEQ_NEW the diff becomes absent too"
     private static void diffBecomesAbsent() {
         for (int seq = PatienceDiff.SEQ_OLD; seq <= PatienceDiff.SEQ_NEW; seq++) {
-            PatienceDiff x = fullAndApplied(3);
+            PatienceDiff x = applied(3);
             Check.due("addLine(" + seq + ", 8)", x.addLine(seq, 8), 3);
             Check.noDiff("a line more in " + seq, x);
             PatienceDiff y = new PatienceDiff(1, 0);
@@ -144,7 +144,7 @@ public final class Promise03AddLineTest {
 
     // "A successful call with SEQ_BASE leaves the diff as it was."
     private static void baseLeavesTheDiff() {
-        PatienceDiff x = fullAndApplied(3);
+        PatienceDiff x = applied(3);
         Check.due("addLine(2, 8)", x.addLine(PatienceDiff.SEQ_BASE, 8), 3);
         Check.matches("a line more in base", x, 0, -1);
         Check.script("a line more in base", x, 0, 1, 2);
@@ -163,7 +163,7 @@ public final class Promise03AddLineTest {
     private static void otherSequencesStay() {
         int[][] lines = {{1, 2}, {1, 3}, {1, 2}};
         for (int seq = PatienceDiff.SEQ_OLD; seq <= PatienceDiff.SEQ_BASE; seq++) {
-            PatienceDiff x = fullAndApplied(32);
+            PatienceDiff x = applied(32);
             Check.feedMore(x, seq, Check.run(30, 70));
             for (int other = PatienceDiff.SEQ_OLD; other <= PatienceDiff.SEQ_BASE; other++) {
                 if (other != seq) {

@@ -158,6 +158,38 @@ public final class Promise06DiffTest {
         for (int context = 0; context <= 3; context++) {
             samePairsAndScript("context " + context, Check.diffed(context, a, b, b), plain);
         }
+        int[] twos = new int[32];
+        Arrays.fill(twos, 2);
+        for (int earlier = 0; earlier < 4; earlier++) {
+            notOnEarlierTexts(earlier, Check.lines(1, 1), Check.lines(2, 1, 3));
+            notOnEarlierTexts(earlier, Check.lines(1, 1, 1, 2, 2), Check.lines(2, 2, 1, 1, 1));
+            notOnEarlierTexts(earlier, Check.lines(3, 1, 1, 2, 2), Check.lines(4, 2, 2, 1, 1));
+            notOnEarlierTexts(earlier, Check.lines(1, 2, 3, 4), Check.lines(3, 4, 1, 2));
+            notOnEarlierTexts(earlier, twos, twos);
+            notOnEarlierTexts(earlier, NONE, NONE);
+        }
+    }
+
+    // Full texts: without a line that is unique, two ways crossed, and with many gaps.
+    private static void feedEarlierTexts(PatienceDiff x, int which) {
+        for (int t = 0; t < 32; t++) {
+            int[] a = {t % 2, t, t, t % 2 == 1 ? t : 100 + t};
+            int[] b = {(t + 1) % 2, t ^ 1, 31 - t, t % 2 == 1 ? t : 200 + t};
+            x.addLine(PatienceDiff.SEQ_OLD, a[which]);
+            x.addLine(PatienceDiff.SEQ_NEW, b[which]);
+        }
+    }
+
+    private static void notOnEarlierTexts(int earlier, int[] a, int[] b) {
+        PatienceDiff x = new PatienceDiff(32, 1);
+        feedEarlierTexts(x, earlier);
+        x.diff();
+        x.clear();
+        Check.feed(x, PatienceDiff.SEQ_OLD, a);
+        Check.feed(x, PatienceDiff.SEQ_NEW, b);
+        PatienceDiff fresh = Check.filled(1, a, b, NONE);
+        Check.due("after a diff of other texts: diff()", x.diff(), fresh.diff());
+        Look.same("after a diff of other texts", x, fresh);
     }
 
     private static void samePairsAndScript(String what, PatienceDiff x, PatienceDiff want) {

@@ -15,6 +15,7 @@ public final class Promise06PairsTest {
         step5RankWithoutOneBefore();
         step5GreatestIndexAmongTheLast();
         step5GreatestIndexBefore();
+        step5WholeChain();
         step5Gaps();
         step6Lcs();
         step6Tie();
@@ -148,11 +149,15 @@ public final class Promise06PairsTest {
         // Ranks: 1:1, 2:1, 3:2, 4:2, 5:3, so 5, then 4 before 3, then 2 before 1.
         pairs("the tie rule at each step",
             Check.lines(1, 2, 3, 4, 5, 8), Check.lines(2, 1, 4, 3, 5, 9), -1, 0, -1, 2, 4, -1);
-        // 4 has the greater i and L = 1, but stands after 3 in B.
-        pairs("its j must be smaller too",
-            Check.lines(1, 4, 3, 8), Check.lines(9, 1, 3, 4, 7), 1, -1, 2, -1);
-        pairs("and its L right",
+        pairs("one step of L at a time",
             Check.lines(1, 2, 3, 8), Check.lines(9, 1, 2, 3, 7), 1, 2, 3, -1);
+    }
+
+    // "Match every chain pair"
+    private static void step5WholeChain() {
+        // Left of 4 alone, 2 and 3 would be anchors and beat 1; but 1 is in the chain already.
+        pairs("before any gap is refined",
+            Check.lines(1, 2, 3, 4, 2, 3, 8), Check.lines(2, 3, 1, 4, 3, 2, 9), 2, -1, -1, 3, -1, 4, -1);
     }
 
     // "Refine each of the gaps (al, i1, bl, j1), (i1+1, i2, j1+1, j2), ..., (iK+1, ah, jK+1, bh)"
@@ -172,11 +177,20 @@ public final class Promise06PairsTest {
         pairs("an empty first gap in B", Check.lines(9, 1, 2, 7), Check.lines(1, 8, 2), -1, 0, 2, -1);
         pairs("an empty last gap in A", Check.lines(8, 1), Check.lines(9, 1, 7), -1, 1);
         pairs("an empty last gap in B", Check.lines(8, 1, 7), Check.lines(9, 1), -1, 1, -1);
+        // 7 is no anchor here, so only the gap's ends say which of two is matched.
+        pairs("a gap starts after its anchor in A",
+            Check.lines(8, 1, 7, 2, 10), Check.lines(9, 1, 7, 6, 7, 2, 11), -1, 1, 2, 5, -1);
+        pairs("a gap starts after its anchor in B",
+            Check.lines(9, 1, 7, 6, 7, 2, 11), Check.lines(8, 1, 7, 2, 10), -1, 1, 2, -1, -1, 3, -1);
+        pairs("a gap ends before its anchor",
+            Check.lines(8, 1, 6, 7, 2, 10), Check.lines(9, 1, 7, 5, 7, 2, 11), -1, 1, -1, 4, 5, -1);
         pairs("an empty gap between", Check.lines(8, 1, 2, 9), Check.lines(7, 1, 2, 6), -1, 1, 2, -1);
     }
 
     // "T(i, j) = length of a longest common subsequence of A[i..ah) and B[j..bh)"
     private static void step6Lcs() {
+        pairs("a line of B counts once", Check.lines(1, 1), Check.lines(2, 1, 3), -1, 1);
+        pairs("a line of A counts once", Check.lines(1, 1), Check.lines(2, 1, 1, 3), 1, 2);
         pairs("B moves on where that is longer",
             Check.lines(1, 1, 1, 2, 2), Check.lines(2, 2, 1, 1, 1), 2, 3, 4, -1, -1);
         pairs("A moves on where that is longer",

@@ -112,12 +112,12 @@ public final class Promise12ApplyTest {
             int[] a = Check.run(32, 0);
             int[] b = Check.run(32, 0);
             b[start] = 99;
-            int[] fives = new int[32];
-            Arrays.fill(fives, start);
-            int[] want = fives.clone();
+            int[] alike = new int[32];
+            Arrays.fill(alike, start);
+            int[] want = alike.clone();
             want[start] = 99;
             // Every line of base agrees, so only the expected place decides.
-            applied("expected at " + start, Check.diffed(0, a, b, fives), 8, Check.lines(start), want);
+            applied("expected at " + start, Check.diffed(0, a, b, alike), 8, Check.lines(start), want);
         }
     }
 
@@ -360,7 +360,8 @@ public final class Promise12ApplyTest {
     // "after the last hunk base[cursor..z) is appended"
     private static void restOfTheBaseFollows() {
         applied("nothing left", Check.diffed(0, Check.lines(5), Check.lines(6), Check.lines(5)), 0, Check.lines(0), 6);
-        applied("one left", Check.diffed(0, Check.lines(5), Check.lines(6), Check.lines(5, 9)), 0, Check.lines(0), 6, 9);
+        applied("one left", Check.diffed(0, Check.lines(5), Check.lines(6), Check.lines(5, 9)), 0,
+            Check.lines(0), 6, 9);
         int[] base = Check.run(32, 5);
         int[] want = base.clone();
         want[0] = 99;
@@ -403,8 +404,8 @@ public final class Promise12ApplyTest {
         Check.noResult("before the next apply", x);
         applied("a copy of the longer base", x, Integer.MAX_VALUE, NONE, 8, 9, 10);
         applied("all empty", Check.diffed(0, NONE, NONE, NONE), 5, NONE);
-        applied("base alone is not", Check.diffed(0, NONE, NONE, Check.run(32, 1)), 0, NONE, Check.run(32, 1));
-        applied("base alone is", Check.diffed(0, Check.run(32, 1), Check.run(32, 1), NONE), 0, NONE);
+        applied("only base has lines", Check.diffed(0, NONE, NONE, Check.run(32, 1)), 0, NONE, Check.run(32, 1));
+        applied("only base has none", Check.diffed(0, Check.run(32, 1), Check.run(32, 1), NONE), 0, NONE);
     }
 
     // "The diff and the base are not changed by apply, nor are A and B."
